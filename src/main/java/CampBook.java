@@ -347,7 +347,7 @@ public final class CampBook {
                 days.readDone(book);
                 return days.countHeldOfAll(book);
             default:
-                return isUpTo(what, 7 + PATROLS) && what > 7 ? book.people.countPatrol(what - 8) : NUMBER;
+                return isBelow(what, 8 + PATROLS) ? book.people.countPatrol(what - 8) : NUMBER;
         }
     }
 

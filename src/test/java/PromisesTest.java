@@ -307,6 +307,7 @@ public final class PromisesTest {
         x.badge(519, 7, 2, 18, 0);
         x.sign(0, 0, 0, 4);
         due("14 ALL", x.lacks(0, 1, 0), 518);
+        due("14 the whole of ALL", x.lacks(1, 1, 0), 519);
         due("14 SOME", x.lacks(0, 1, 1), 1);
         due("14 AGE", x.lacks(0, 1, 2), 10);
         due("14 other", x.lacks(0, 1, 3), 1);
@@ -448,6 +449,72 @@ public final class PromisesTest {
         due("20 as much by one", x.planned(0), 4);
         due("20 fewest patrols", x.planned(1), 1);
         due("20 patrol 0 alone", x.plan(0), 0);
+        CampBook last = camp(new int[] {1, 1, 2}, false);
+        last.ratio(2);
+        last.site(1, false);
+        last.wish(0, 0, 0, 2);
+        last.wish(1, 0, 1, 2);
+        last.wish(2, 0, 0, 4);
+        due("20 the last alone ahead of two", last.plan(2), 0);
+        due("20 not the first", last.plan(0), CampBook.NONE);
+        due("20 one is given something", last.planned(1), 1);
+        last.wish(1, 0, 1, 3);
+        due("20 two for more", last.plan(1), 1);
+        due("20 two are given something", last.planned(1), 2);
+    }
+
+    /** Every number of things at its greatest, so that the last of each is used. */
+    private static void fullBook() {
+        CampBook x = new CampBook();
+        for (int i = 0; i < 10; i++) {
+            x.child(18, i < 4 ? i : 3);
+            x.task(3, -1);
+            x.badge(512, 512, 1, 18, Math.min(i, 8) - 1);
+            x.leader();
+            x.free(i, 16);
+            x.paper(i, 3, 999, 999);
+            x.site(10, true);
+        }
+        for (int i = 0; i < 80; i++) {
+            x.sign(9, i / 8, 4, 999);
+        }
+        int[] want = {10, 5, 10, 80, 8, 3, 80, 8, 1, 1, 1, 7};
+        for (int what = 0; what < 12; what++) {
+            due("22 full, what " + what, x.many(what), want[what]);
+        }
+        due("11 full", x.of(79, 1), 9);
+        due("12 full", x.done(9, 9), 999);
+        due("13 full", x.held(9, 7), 999);
+        due("14 full", x.lacks(8, 7, 0), 512);
+        due("15 full", x.badges(9, 999), 8);
+        for (int patrol = 0; patrol < 4; patrol++) {
+            x.wish(patrol, 4, 2, 9);
+            x.wish(patrol, 4, 1, 8);
+            x.wish(patrol, 4, 0, 7);
+        }
+        int[] slots = {12, 13, 14, CampBook.NONE};
+        for (int patrol = 0; patrol < 4; patrol++) {
+            due("20 full, patrol " + patrol, x.plan(patrol), slots[patrol]);
+        }
+        due("21 full, worth", x.planned(0), 24);
+        due("21 full, away", x.planned(6), 3);
+        x.wish(3, 0, 0, 9);
+        due("20 no leader is free", x.plan(3), CampBook.NONE);
+    }
+
+    private static void planFollowsChildren() {
+        CampBook x = new CampBook();
+        x.leader();
+        x.free(0, 31);
+        x.site(1, false);
+        x.wish(2, 0, 0, 1);
+        due("20 none came", x.plan(2), CampBook.NONE);
+        x.child(6, 2);
+        due("20 a child came", x.plan(2), 0);
+        x.child(6, 2);
+        due("20 too many came", x.plan(2), CampBook.NONE);
+        x.change(0, 1, 3);
+        due("20 one went", x.plan(2), 0);
     }
 
     private static void planWoods() {
@@ -524,7 +591,8 @@ public final class PromisesTest {
         x.change(0, 1, 2);
         x.child(7, 0);
         x.leader();
-        x.paper(0, 0, 900, 999);
+        x.paper(0, 0, 61, 62);
+        x.paper(0, 0, 0, 1);
         x.paper(1, 1, 0, 999);
         x.free(0, 1);
         x.free(1, 31);
@@ -534,6 +602,7 @@ public final class PromisesTest {
         x.sign(0, 1, 0, 70);
         x.site(9, true);
         x.wish(0, 0, 0, 0);
+        due("24 another plan", x.plan(0), CampBook.NONE);
     }
 
     private static void checkKept(String which, CampBook x) {
@@ -611,7 +680,9 @@ public final class PromisesTest {
         ratio();
         planAlone();
         planFewest();
+        planFollowsChildren();
         planWoods();
+        fullBook();
         planned();
         many();
         keepAndBack();
