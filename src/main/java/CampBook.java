@@ -252,7 +252,8 @@ public final class CampBook {
             return NUMBER;
         }
         days.readDone(book);
-        return days.countHeld(book, child, day);
+        days.readHeld(book, child);
+        return days.countHeld(book, day);
     }
 
     // ---- weekends
@@ -679,8 +680,8 @@ public final class CampBook {
             return Math.max(Math.max(all, some), otherFrom(texts.others[badge]));
         }
 
-        private int countHeld(Book book, int child, int day) {
-            readHeld(book, child);
+        /** Needs held read for the child. */
+        private int countHeld(Book book, int day) {
             int count = 0;
             for (int badge = 0; badge < book.texts.badges; badge++) {
                 if (held[badge] <= day) {
@@ -693,7 +694,8 @@ public final class CampBook {
         private int countHeldOfAll(Book book) {
             int count = 0;
             for (int child = 0; child < book.people.children; child++) {
-                count += countHeld(book, child, LAST_DAY);
+                readHeld(book, child);
+                count += countHeld(book, LAST_DAY);
             }
             return count;
         }
