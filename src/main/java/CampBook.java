@@ -434,8 +434,11 @@ public final class CampBook {
         System.arraycopy(source, 0, target, 0, Math.min(source.length, target.length));
     }
 
+    // By a loop, as the library's copies are meant for rows of numbers.
     private static void copyMarks(boolean[] source, boolean[] target) {
-        System.arraycopy(source, 0, target, 0, Math.min(source.length, target.length));
+        for (int i = 0; i < source.length && i < target.length; i++) {
+            target[i] = source[i];
+        }
     }
 
     /** All that is kept together; the ratio is not, so it stands outside. */

@@ -581,6 +581,25 @@ public final class EdgesTest {
         due("10 takes the badges too", x.many(7), 0);
     }
 
+    /** What is done or held from the first or the last day on is lacked no more. */
+    private static void lackedOnTheLastDay() {
+        for (int day : new int[] {0, 1, 998, 999}) {
+            CampBook x = one();
+            x.badge(1, 0, 0, 6, -1);
+            x.badge(0, 1, 1, 6, 0);
+            int[] before = {1, 1, 0, 1};
+            int[] after = {0, 0, 0, 0};
+            for (int what = 0; what < 4; what++) {
+                due("14 lacked, what " + what, x.lacks(0, what == 0 ? 0 : 1, what), before[what]);
+            }
+            x.sign(0, 0, 0, day);
+            for (int what = 0; what < 4; what++) {
+                due("14 done on day " + day + ", what " + what, x.lacks(0, what == 0 ? 0 : 1, what), after[what]);
+            }
+            due("13 held from that day", x.held(0, 1), day);
+        }
+    }
+
     // ---- 9, 10, 11, 12, 15: signatures
 
     private static CampBook signed() {
@@ -1096,6 +1115,29 @@ public final class EdgesTest {
         due("24 no room for a signature", x.sign(0, 0, 0, 0), FULL);
     }
 
+    /** Each signature, the first and the last too, is as struck or not as it was when it was kept. */
+    private static void keepStruck() {
+        CampBook x = fullBook();
+        x.keep();
+        for (int signature = 0; signature < 80; signature++) {
+            x.strike(signature);
+        }
+        due("10 all are struck", x.many(6), 0);
+        x.back();
+        due("24 none is struck", x.many(6), 80);
+        for (int signature = 0; signature < 80; signature++) {
+            due("24 is not struck", x.of(signature, 4), 0);
+        }
+        for (int signature = 0; signature < 80; signature += 79) {
+            due("10 struck again", x.strike(signature), 1);
+        }
+        x.keep();
+        x.back();
+        due("24 two are struck", x.many(6), 78);
+        due("24 the first", x.of(0, 4), 1);
+        due("24 the last", x.of(79, 4), 1);
+    }
+
     private static void keepLatest() {
         CampBook x = new CampBook();
         x.keep();
@@ -1155,6 +1197,7 @@ public final class EdgesTest {
         ageOfBadge();
         otherOfBadge();
         badgeChain();
+        lackedOnTheLastDay();
         signatureNumbers();
         signatures();
         twoOnOneDay();
@@ -1178,6 +1221,7 @@ public final class EdgesTest {
         counts();
         keepNothing();
         keepFull();
+        keepStruck();
         keepLatest();
         keepNotRatio();
         System.out.println(wrong == 0 ? asked + " answers are as due" : wrong + " answers are not as due");

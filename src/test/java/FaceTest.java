@@ -10,7 +10,7 @@ import java.util.TreeSet;
 import java.util.regex.Matcher;
 import java.util.regex.Pattern;
 
-/** The public face is the document's and no more, and the source has no word that LANGUAGE.md rules out. */
+/** The public face is the document's and no more; of LANGUAGE.md the rules that can be seen from outside, by number. */
 public final class FaceTest {
     private static final String[] FACE = {
         "NUMBER -1", "FULL -2", "NONE -3", "TWICE -4", "new []",
@@ -76,6 +76,56 @@ public final class FaceTest {
         return found;
     }
 
+    private static int broken = 0;
+
+    private static void rule(int number, String where, boolean kept) {
+        if (!kept) {
+            System.out.println("rule " + number + ": " + where);
+            broken++;
+        }
+    }
+
+    private static void lookAtClasses() {
+        rule(11, "classes", withInside().length <= 12);
+        for (Class<?> place : withInside()) {
+            rule(2, place.getName(), place == CampBook.class || Modifier.isStatic(place.getModifiers()));
+            rule(2, "classes inside " + place.getName(), place == CampBook.class || place.getDeclaredClasses().length == 0);
+            lookAtFields(place);
+            for (Method method : place.getDeclaredMethods()) {
+                rule(11, method.toString(), method.getParameterCount() <= 7);
+            }
+        }
+    }
+
+    private static void lookAtFields(Class<?> place) {
+        Set<Class<?>> constants = Set.of(int.class, long.class, boolean.class, char.class, String.class);
+        int own = 0;
+        for (Field field : place.getDeclaredFields()) {
+            if (Modifier.isStatic(field.getModifiers())) {
+                rule(5, field.toString(), Modifier.isFinal(field.getModifiers()) && constants.contains(field.getType()));
+            } else {
+                own++;
+            }
+        }
+        rule(11, "fields of " + place.getName(), own <= 20);
+    }
+
+    private static void lookAtSource() throws java.io.IOException {
+        String source = Files.readString(Path.of("src/main/java/CampBook.java"));
+        rule(3, "signs of the source", source.chars().allMatch(sign -> sign == '\n' || (sign >= 32 && sign < 127)));
+        Matcher imported = Pattern.compile("import ([^;]*);").matcher(source);
+        while (imported.find()) {
+            rule(4, imported.group(1), imported.group(1).matches("java\\.util\\.(Arrays|ArrayList|List|Iterator)"));
+        }
+        Matcher body = Pattern.compile("(?ms)^( +)(?:public|private)[^;={]*\\) \\{\\n.*?^\\1\\}\\n").matcher(source);
+        int bodies = 0;
+        while (body.find()) {
+            bodies++;
+            rule(11, "length of " + body.group().lines().findFirst().orElse(""), body.group().lines().count() <= 60);
+        }
+        rule(11, "methods found", bodies > FACE.length - 5);
+    }
+
     public static void main(String[] args) throws Exception {
         Set<String> due = new TreeSet<>(Arrays.asList(FACE));
         Set<String> seen = seenFace();
@@ -86,6 +136,9 @@ public final class FaceTest {
         right &= Modifier.isFinal(CampBook.class.getModifiers()) && Modifier.isPublic(CampBook.class.getModifiers());
         right &= countPrivateTwins() == 0;
         right &= countRuledOut() == 0;
+        lookAtClasses();
+        lookAtSource();
+        right &= broken == 0;
         System.out.println(right ? "the face is as due" : "the face is not as due");
         if (!right) {
             System.exit(1);
