@@ -1,11 +1,11 @@
 import java.util.Random;
 
 /**
- * THE PLAN of many books (from fixed seeds) against the best of all plans that there are, each tried in full. Most
+ * THE PLAN of many books (from fixed seeds) against the best of all plans that there are, each tried in full. Many
  * books have few different wishes and scarce leaders and beds, so that ties of worth and of number are common.
  */
 public final class PlanTest {
-    private static final int BOOKS = 1500;
+    private static final int BOOKS = 3000;
     private static final int NOTHING = 15;
     private static int wrong = 0;
 
@@ -21,13 +21,13 @@ public final class PlanTest {
     private int bestGiven;
 
     private PlanTest(Random random) {
-        int children = random.nextInt(11);
+        int children = random.nextInt(8) == 0 ? random.nextInt(3) : 3 + random.nextInt(8);
         for (int i = 0; i < children; i++) {
             int patrol = random.nextInt(4);
             book.child(6 + i, patrol);
             heads[patrol]++;
         }
-        int leaders = random.nextInt(6);
+        int leaders = random.nextInt(16) == 0 ? 0 : 1 + random.nextInt(5);
         for (int leader = 0; leader < leaders; leader++) {
             int bits = random.nextInt(3) == 0 ? 31 : random.nextInt(32);
             book.leader();
@@ -51,9 +51,11 @@ public final class PlanTest {
     private void makeWishes(Random random) {
         int most = 1 + random.nextInt(random.nextBoolean() ? 2 : 9);
         int share = 1 + random.nextInt(4);
+        // A crowd on the first weekends, where one patrol may stand against two for the same worth.
+        int crowded = random.nextBoolean() ? 15 : 3 + random.nextInt(4);
         for (int patrol = 0; patrol < 4; patrol++) {
             for (int slot = 0; slot < 15; slot++) {
-                int v = random.nextInt(4) < share ? random.nextInt(most + 1) : 0;
+                int v = slot < crowded && random.nextInt(4) < share ? random.nextInt(most + 1) : 0;
                 wishes[patrol][slot] = v;
                 book.wish(patrol, slot / 3, slot % 3, v);
             }
